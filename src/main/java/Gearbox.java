@@ -3349,14 +3349,17 @@ public final class Gearbox {
             Steps steps = work.steps;
             int left = steps.left[s];
             if (usesLeft(steps.kind[s]) && left < count && slot[left] != STAYS) {
-                steps.left[s] = fetch(b, left);
+                // Fetching may move the rows of steps, so what it gives is kept ahead of storing it.
+                int own = fetch(b, left);
+                steps.left[s] = own;
                 if (usesRight(steps.kind[s]) && steps.right[s] == left) {
-                    steps.right[s] = steps.left[s];
+                    steps.right[s] = own;
                 }
             }
             int right = steps.right[s];
             if (usesRight(steps.kind[s]) && right < count && slot[right] != STAYS) {
-                steps.right[s] = fetch(b, right);
+                int own = fetch(b, right);
+                steps.right[s] = own;
             }
             int gives = steps.gives[s];
             int place = gives < 0 ? STAYS : slot[gives];

@@ -695,23 +695,28 @@ public final class Gearbox {
                 return;
             }
             count++;
+            int c = tape[after];
             if (count > MOST_TOKENS) {
                 kind = WRONG;
-            } else if (isLetter(tape[after])) {
+            } else if (isLetter(c)) {
                 readWord();
-            } else if (isDigit(tape[after])) {
+                kind = after - place > LONGEST_WORD ? WRONG : kindOfWord(name);
+            } else if (isDigit(c)) {
                 readFigure();
+                kind = after - place > LONGEST_FIGURE ? WRONG : FIGURE;
             } else {
-                readSign(tape[after]);
+                readSign(c);
             }
         }
 
         private void readWord() {
             name = 0;
-            for (; after < length && (isLetter(tape[after]) || isDigit(tape[after])); after++) {
-                name = name * 256 + tape[after];
+            int c = tape[after];
+            while (c >= 'a' && c <= 'z' || c >= '0' && c <= '9') {
+                name = name * 256 + c;
+                after++;
+                c = after < length ? tape[after] : 0;
             }
-            kind = after - place > LONGEST_WORD ? WRONG : kindOfWord(name);
         }
 
         private static int kindOfWord(long word) {
@@ -741,10 +746,9 @@ public final class Gearbox {
 
         private void readFigure() {
             figure = 0;
-            for (; after < length && isDigit(tape[after]); after++) {
+            for (; after < length && tape[after] >= '0' && tape[after] <= '9'; after++) {
                 figure = figure * 10 + (tape[after] - '0');
             }
-            kind = after - place > LONGEST_FIGURE ? WRONG : FIGURE;
         }
 
         private void readSign(int c) {
@@ -878,7 +882,9 @@ public final class Gearbox {
             calls = 0;
             tokens.begin();
             try {
-                readFunctions();
+                for (int f = 0; f <= MOST_FUNCTIONS && (f == 0 || tokens.kind != Tokens.END); f++) {
+                    readFunction(f);
+                }
             } catch (IllegalArgumentException wrongToken) {
                 faultPlace = tokens.place;
                 return 1;
@@ -891,16 +897,10 @@ public final class Gearbox {
             return fault;
         }
 
-        private void readFunctions() {
-            for (int f = 0; f <= MOST_FUNCTIONS && (f == 0 || tokens.kind != Tokens.END); f++) {
-                if (f == MOST_FUNCTIONS) {
-                    refuse();
-                }
-                readFunction(f);
-            }
-        }
-
         private void readFunction(int f) {
+            if (f >= MOST_FUNCTIONS) {
+                refuse();
+            }
             function = f;
             seen = 0;
             loops = 0;
@@ -915,9 +915,9 @@ public final class Gearbox {
             program.parameters[f] = 0;
             program.variables[f] = 0;
             program.from[f] = program.ops;
-            openBracket('(');
+            expect('(');
             readParameters();
-            closeBracket(')');
+            expect(')');
             readBlock();
             program.emit(NUMBER, 0, 0);
             program.emit(RETURN, 0, 0);
@@ -946,29 +946,63 @@ public final class Gearbox {
 
         private void readBlock() {
             int seenAhead = seen;
-            openBracket('{');
+            expect('{');
             for (int n = 0; n <= MOST_TOKENS && tokens.kind != '}'; n++) {
                 readStatement();
             }
-            closeBracket('}');
+            expect('}');
             seen = seenAhead;
         }
 
         private void readStatement() {
+            int start = program.ops;
             switch (tokens.kind) {
-                case Tokens.VAR: readVar(); break;
-                case Tokens.NAME: readNamed(); break;
-                case '[': readWrite(); break;
+                case Tokens.VAR:
+                    long own = readNewName();
+                    readTest(0);
+                    program.emit(SET, declare(own), 0);
+                    expect(';');
+                    break;
+                case Tokens.NAME:
+                    long name = tokens.name;
+                    int place = tokens.place;
+                    expect(Tokens.NAME);
+                    if (tokens.kind == '(') {
+                        readCall(name, place);
+                        program.emit(FORGET, 0, 0);
+                    } else {
+                        expect('=');
+                        int variable = seenVariableOf(name, place);
+                        readTest(0);
+                        program.emit(SET, variable, 0);
+                    }
+                    expect(';');
+                    break;
+                case '[':
+                    expect('[');
+                    readTest(0);
+                    expect(']');
+                    expect('=');
+                    readTest(0);
+                    program.emit(WRITE, 0, 0);
+                    expect(';');
+                    break;
+                case Tokens.LEAVE:
+                    expect(Tokens.LEAVE);
+                    readTest(0);
+                    program.emit(RETURN, 0, 0);
+                    expect(';');
+                    break;
                 case Tokens.IF: readIf(); break;
                 case Tokens.WHILE: readWhile(); break;
                 case Tokens.BREAK: readLeave(loopEnd); break;
                 case Tokens.CONTINUE: readLeave(loopHead); break;
-                case Tokens.LEAVE: readReturn(); break;
                 default: refuse();
             }
+            program.tick(start);
         }
 
-        private void readVar() {
+        private long readNewName() {
             expect(Tokens.VAR);
             long name = tokens.name;
             int place = tokens.place;
@@ -977,42 +1011,12 @@ public final class Gearbox {
                 blame(3, place);
             }
             expect('=');
-            readStatementTest();
-            expect(';');
-            program.emit(SET, declare(name), 0);
-        }
-
-        private void readNamed() {
-            long name = tokens.name;
-            int place = tokens.place;
-            expect(Tokens.NAME);
-            if (tokens.kind == '(') {
-                int start = program.ops;
-                readCall(name, place);
-                program.tick(start);
-                program.emit(FORGET, 0, 0);
-            } else {
-                expect('=');
-                int variable = seenVariableOf(name, place);
-                readStatementTest();
-                program.emit(SET, variable, 0);
-            }
-            expect(';');
-        }
-
-        private void readWrite() {
-            openBracket('[');
-            readStatementTest();
-            closeBracket(']');
-            expect('=');
-            readTest(0);
-            expect(';');
-            program.emit(WRITE, 0, 0);
+            return name;
         }
 
         private void readIf() {
             expect(Tokens.IF);
-            readStatementTest();
+            readTest(0);
             int past = program.newLabel();
             program.emit(SKIP_IF_ZERO, past, 0);
             readBlock();
@@ -1031,7 +1035,7 @@ public final class Gearbox {
         private void readWhile() {
             expect(Tokens.WHILE);
             // A while is one step however often its test is evaluated, so this stands ahead of its label.
-            program.emit(NOTHING, 0, 1);
+            program.emit(NOTHING, 0, 0);
             int head = program.newLabel();
             int end = program.newLabel();
             program.putLabel(head);
@@ -1052,23 +1056,10 @@ public final class Gearbox {
             if (loops == 0) {
                 blame(5, tokens.place);
             } else if (loops <= MOST_OPEN) {
-                program.emit(GO, labels[loops - 1], 1);
+                program.emit(GO, labels[loops - 1], 0);
             }
             tokens.advance();
             expect(';');
-        }
-
-        private void readReturn() {
-            expect(Tokens.LEAVE);
-            readStatementTest();
-            expect(';');
-            program.emit(RETURN, 0, 0);
-        }
-
-        private void readStatementTest() {
-            int start = program.ops;
-            readTest(0);
-            program.tick(start);
         }
 
         /** Reads operators of this row and of all that bind more, and returns the height. */
@@ -1155,17 +1146,17 @@ public final class Gearbox {
                     program.emit(GET, seenVariableOf(name, place), 1);
                 }
             } else if (tokens.kind == '[') {
-                openBracket('[');
+                expect('[');
                 int start = program.ops;
                 height = readTest(0);
                 program.tick(start);
-                closeBracket(']');
+                expect(']');
                 program.emit(READ, 0, 0);
                 height = raise(height, place);
             } else {
-                openBracket('(');
+                expect('(');
                 height = readTest(0);
-                closeBracket(')');
+                expect(')');
             }
             return height;
         }
@@ -1174,7 +1165,7 @@ public final class Gearbox {
             int start = program.ops;
             int height = 0;
             int count = 0;
-            openBracket('(');
+            expect('(');
             for (; count <= MOST_PARAMETERS && tokens.kind != ')'; count++) {
                 if (count > 0) {
                     expect(',');
@@ -1184,7 +1175,7 @@ public final class Gearbox {
                 }
                 height = Math.max(height, readTest(0));
             }
-            closeBracket(')');
+            expect(')');
             for (int left = count; left > 0; left--) {
                 program.emit(ARGUMENT, left, 0);
             }
@@ -1258,22 +1249,15 @@ public final class Gearbox {
             return variable;
         }
 
-        private void openBracket(int bracket) {
-            if (open == MOST_OPEN) {
+        private void expect(int kind) {
+            boolean opens = kind == '(' || kind == '[' || kind == '{';
+            if (tokens.kind != kind || opens && open == MOST_OPEN) {
                 refuse();
             }
-            expect(bracket);
-            open++;
-        }
-
-        private void closeBracket(int bracket) {
-            expect(bracket);
-            open--;
-        }
-
-        private void expect(int kind) {
-            if (tokens.kind != kind) {
-                refuse();
+            if (opens) {
+                open++;
+            } else if (kind == ')' || kind == ']' || kind == '}') {
+                open--;
             }
             tokens.advance();
         }
@@ -1341,11 +1325,12 @@ public final class Gearbox {
 
         int add(int newKind, int newGives, int newLeft, int newRight) {
             if (count >= kind.length) {
-                kind = atLeast(kind, count + 1);
-                gives = atLeast(gives, count + 1);
-                left = atLeast(left, count + 1);
-                right = atLeast(right, count + 1);
-                next = atLeast(next, count + 1);
+                int room = count + count / 2 + 1;
+                kind = Arrays.copyOf(kind, room);
+                gives = Arrays.copyOf(gives, room);
+                left = Arrays.copyOf(left, room);
+                right = Arrays.copyOf(right, room);
+                next = Arrays.copyOf(next, room);
             }
             kind[count] = newKind;
             gives[count] = newGives;
@@ -2001,8 +1986,8 @@ public final class Gearbox {
         // ---- phis
 
         private void noteVariables(Program program, int f, Flow flow) {
-            Arrays.fill(uses, 0);
-            Arrays.fill(assigns, 0);
+            Arrays.fill(uses, 0L);
+            Arrays.fill(assigns, 0L);
             for (int b = 0; b < flow.blocks; b++) {
                 for (int i = opsFrom(b); i < opsTo(b); i++) {
                     int op = program.op[i];
@@ -2017,7 +2002,7 @@ public final class Gearbox {
         }
 
         private void findBorders(Flow flow) {
-            Arrays.fill(border, 0);
+            Arrays.fill(border, 0L);
             for (int b = 0; b < flow.blocks; b++) {
                 for (int place = 0; place < flow.waysTo(b); place++) {
                     long over = flow.dominators[flow.wayFrom(b, place)];

@@ -6,6 +6,10 @@ public final class OracleTest {
     private static int programs;
     private static int allocations;
     private static int failedAllocations;
+    private static int mostRounds;
+    private static int mostBlocks;
+    private static int mostValues;
+    private static int mostLines;
     private static final int[] kinds = new int[7];
 
     public static void main(String[] args) {
@@ -22,7 +26,8 @@ public final class OracleTest {
         }
         System.out.println("OracleTest: " + programs + " programs, errors 1 to 6: " + kinds[1] + " " + kinds[2] + " "
             + kinds[3] + " " + kinds[4] + " " + kinds[5] + " " + kinds[6] + ", " + allocations + " allocations, "
-            + failedAllocations + " of them without code");
+            + failedAllocations + " of them without code; at most " + mostBlocks + " blocks, " + mostValues
+            + " values, " + mostRounds + " rounds, " + mostLines + " lines");
         check.end();
     }
 
@@ -34,15 +39,15 @@ public final class OracleTest {
         int loads = 1 + random.nextInt(4);
         for (int n = 0; n < loads; n++) {
             boolean isSloppy = random.nextInt(3) == 0;
-            String text = maker.program(1 + random.nextInt(random.nextInt(3) == 0 ? 60 : 25), isSloppy);
-            if (random.nextInt(5) == 0) {
+            int statements = 1 + random.nextInt(random.nextInt(3) == 0 ? 90 : 25);
+            boolean isShuffled = random.nextInt(4) == 0;
+            String text = isShuffled ? maker.shuffle() : maker.program(statements, isSloppy);
+            for (; text.length() > (isShuffled ? 680 : 1200); statements -= 1 + statements / 20) {
+                text = isShuffled ? maker.shuffle() : maker.program(statements, isSloppy);
+            }
+            if (random.nextInt(10) == 0) {
                 text = maker.spoil(text);
-            }
-            if (text.length() > 1200) {
-                text = isSloppy ? text.substring(0, 1200) : maker.program(8, false);
-            }
-            if (text.length() > 1200) {
-                text = text.substring(0, 1200);
+                text = text.substring(0, Math.min(text.length(), 1200));
             }
             String what = "seed " + seed + " load " + n;
             int error = oracle.load(text);
@@ -85,6 +90,12 @@ public final class OracleTest {
                     allocations++;
                     failedAllocations += due < 0 ? 1 : 0;
                     check.same(what + " allocate " + k, box.allocate(k), due);
+                    for (int f = 0; f < functions; f++) {
+                        mostRounds = Math.max(mostRounds, box.rounds(f));
+                        mostLines = Math.max(mostLines, box.lines(f));
+                        mostBlocks = Math.max(mostBlocks, box.blocks(f));
+                        mostValues = Math.max(mostValues, box.values(f));
+                    }
                     check.isTrue(what + " meanCode", box.meanCode() == oracle.meanCode());
                 }
                 break;

@@ -36,17 +36,71 @@ final class Programs {
         return text.toString();
     }
 
+    /** A text in which many variables change places in loops: with many phis, and many copies for them. */
+    String shuffle() {
+        text.setLength(0);
+        seen.clear();
+        int count = 3 + random.nextInt(30);
+        text.append("fun f(p,q){");
+        for (int n = 0; n < count; n++) {
+            String name = n < 24 ? String.valueOf((char) ('a' + n + (n > 14 ? 2 : 0))) : "v" + n;
+            text.append("var ").append(name).append('=').append(chance(3) ? "p" : chance(2) ? "q" : "" + n).append(';');
+            seen.add(name);
+        }
+        int loopCount = 1 + random.nextInt(3);
+        for (int n = 0; n < loopCount; n++) {
+            text.append(chance(3) ? "while " + some() + "<9{" : "while p>0{p=p-1;");
+            shuffleBody(1 + random.nextInt(9));
+        }
+        for (int n = 0; n < loopCount; n++) {
+            shuffleMoves(random.nextInt(3));
+            text.append('}');
+        }
+        text.append("return ").append(some());
+        int sum = random.nextInt(9);
+        for (int n = 0; n < sum; n++) {
+            text.append(chance(2) ? '+' : '^').append(some());
+        }
+        text.append(";}");
+        return text.toString();
+    }
+
+    private void shuffleBody(int groups) {
+        for (int n = 0; n < groups; n++) {
+            shuffleMoves(random.nextInt(6));
+            if (chance(3)) {
+                text.append("if ").append(some()).append('{');
+                shuffleMoves(random.nextInt(4));
+                text.append(chance(4) ? "break;}" : chance(2) ? "continue;}" : "}");
+            }
+        }
+    }
+
+    private void shuffleMoves(int moves) {
+        for (int n = 0; n < moves; n++) {
+            String one = some();
+            String other = some();
+            if (chance(3)) {
+                text.append("q=").append(one).append(';').append(one).append('=').append(other).append(';')
+                    .append(other).append("=q;");
+            } else {
+                text.append(one).append('=').append(other);
+                text.append(chance(3) ? "+1;" : ";");
+            }
+        }
+    }
+
     private boolean chance(int of) {
         return random.nextInt(of) == 0;
     }
 
     private void put(String word) {
-        if (isSloppy && chance(400)) {
+        if (isSloppy && chance(4000)) {
             return;
         }
         int end = text.length() - 1;
         boolean isWord = Character.isLetterOrDigit(word.charAt(0));
-        if (end >= 0 && isWord && Character.isLetterOrDigit(text.charAt(end)) && !(isSloppy && chance(100))) {
+        if (end >= 0 && isWord && Character.isLetterOrDigit(text.charAt(end)) && !(isSloppy && chance(2000))) {
             text.append(chance(20) ? '\n' : ' ');
         }
         text.append(word);
@@ -60,7 +114,7 @@ final class Programs {
         loops = 0;
         open = 1;
         put("fun");
-        put(isSloppy && chance(20) ? "f0" : "f" + f);
+        put(isSloppy && chance(60) ? "f0" : "f" + f);
         put("(");
         for (int n = 0; n < parameters[f]; n++) {
             if (n > 0) {
@@ -112,7 +166,7 @@ final class Programs {
     }
 
     private String some() {
-        if (seen.isEmpty() || isSloppy && chance(60)) {
+        if (seen.isEmpty() || isSloppy && chance(900)) {
             return isSloppy ? "nobody" : null;
         }
         // The latest ones more often, so that their values live on and meet.
@@ -125,7 +179,7 @@ final class Programs {
         int kind = random.nextInt(20);
         String name = some();
         if (kind < 5) {
-            String own = isSloppy && chance(30) && name != null ? name : fresh();
+            String own = isSloppy && chance(150) && name != null ? name : fresh();
             put("var");
             put(own);
             put("=");
@@ -225,6 +279,9 @@ final class Programs {
             operand(height - 1);
             for (int n = 0; n < count; n++) {
                 String operator = OPERATORS[random.nextInt(OPERATORS.length)];
+                if (count > 1 && isComparison(operator) && !(isSloppy && chance(10))) {
+                    operator = "+";
+                }
                 if (operator.equals("/") || operator.equals("%")) {
                     operator = chance(2) ? operator : "+";
                 }
@@ -237,6 +294,11 @@ final class Programs {
         } else {
             operand(height);
         }
+    }
+
+    // Comparisons do not stand in a row.
+    private static boolean isComparison(String operator) {
+        return List.of("<", "<=", ">", ">=", "==", "!=").contains(operator);
     }
 
     private void operand(int height) {

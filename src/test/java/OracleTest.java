@@ -2,7 +2,6 @@ import java.util.Random;
 
 /** Compares a Gearbox with the Oracle over programs and calls made by chance (the same ones each time). */
 public final class OracleTest {
-    private static int errors;
     private static int programs;
     private static int allocations;
     private static int failedAllocations;
@@ -14,7 +13,7 @@ public final class OracleTest {
 
     public static void main(String[] args) {
         int from = args.length > 0 ? Integer.parseInt(args[0]) : 1;
-        int to = args.length > 1 ? Integer.parseInt(args[1]) : 400;
+        int to = args.length > 1 ? Integer.parseInt(args[1]) : 1500;
         Check check = new Check("OracleTest");
         for (int seed = from; seed <= to && check.wrong() < 5; seed++) {
             try {

@@ -2219,11 +2219,11 @@ public final class Gearbox {
         private boolean learnBlock(Flow flow, int b) {
             boolean learns = false;
             for (int phi = flow.firstPhi[b]; phi >= 0; phi = flow.phiNext[phi]) {
-                learns |= learnPhi(flow, b, phi);
+                learns = learnPhi(flow, b, phi) || learns;
             }
             for (int s = flow.firstStep[b]; s >= 0; s = flow.steps.next[s]) {
                 if (flow.steps.gives[s] >= 0) {
-                    learns |= learnStep(flow.steps, s);
+                    learns = learnStep(flow.steps, s) || learns;
                 }
             }
             long before = reached;
@@ -2242,7 +2242,7 @@ public final class Gearbox {
                 int from = flow.wayFrom(b, place);
                 int value = flow.take(phi, from);
                 if (isWay(flow, from, b) && state[value] != UNKNOWN) {
-                    learns |= learn(flow.phiGives[phi], state[value], number[value]);
+                    learns = learn(flow.phiGives[phi], state[value], number[value]) || learns;
                 }
             }
             return learns;
@@ -2569,19 +2569,19 @@ public final class Gearbox {
             for (int s = flow.firstStep[b]; s >= 0; s = steps.next[s]) {
                 int kind = steps.kind[s];
                 if (kind == WRITE || kind == ARGUMENT || mayFail(flow, s)) {
-                    grows |= wantUsed(steps, s);
+                    grows = wantUsed(steps, s) || grows;
                 }
                 if (steps.gives[s] >= 0 && mayFail(flow, s)) {
-                    grows |= want(steps.gives[s]);
+                    grows = want(steps.gives[s]) || grows;
                 }
                 if (steps.gives[s] >= 0 && marks[steps.gives[s]] == 0) {
-                    grows |= wantUsed(steps, s);
+                    grows = wantUsed(steps, s) || grows;
                 }
             }
             for (int phi = flow.firstPhi[b]; phi >= 0; phi = flow.phiNext[phi]) {
                 if (marks[flow.phiGives[phi]] == 0) {
                     for (int place = 0; place < flow.waysTo(b); place++) {
-                        grows |= want(flow.take(phi, flow.wayFrom(b, place)));
+                        grows = want(flow.take(phi, flow.wayFrom(b, place))) || grows;
                     }
                 }
             }
@@ -2841,9 +2841,8 @@ public final class Gearbox {
             for (int n = 0; grows && n < MANY; n++) {
                 grows = false;
                 for (int b = flow.blocks - 1; b >= 0; b--) {
-                    if (spreadInto(flow.first[b], b) | spreadInto(flow.second[b], b)) {
-                        grows = true;
-                    }
+                    boolean isMore = spreadInto(flow.first[b], b);
+                    grows = spreadInto(flow.second[b], b) || isMore || grows;
                 }
             }
         }

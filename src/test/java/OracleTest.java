@@ -35,7 +35,8 @@ public final class OracleTest {
         Programs maker = new Programs(random);
         Gearbox box = new Gearbox();
         Oracle oracle = new Oracle();
-        int loads = 1 + random.nextInt(4);
+        // Now and then one object reads a great many programs.
+        int loads = 1 + random.nextInt(seed % 50 == 0 ? 60 : 4);
         for (int n = 0; n < loads; n++) {
             boolean isSloppy = random.nextInt(3) == 0;
             int statements = 1 + random.nextInt(random.nextInt(3) == 0 ? 90 : 25);

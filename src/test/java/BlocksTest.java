@@ -14,7 +14,7 @@ public final class BlocksTest {
     private static void are(String text, int f, String... blocks) {
         String due = String.join("\n", blocks) + "\n";
         String got = Dump.blocks(Tape.with(text), f);
-        check.isTrue("«" + text + "» has the blocks\n" + due + "but has\n" + got + "this", got.equals(due));
+        check.isTrue("'" + text + "' has the blocks\n" + due + "but has\n" + got + "this", got.equals(due));
     }
 
     private static void made() {

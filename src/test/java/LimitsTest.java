@@ -14,7 +14,7 @@ public final class LimitsTest {
 
     private static void go(String whole) {
         String text = whole.substring(0, Math.min(whole.length(), 1200));
-        String what = "«" + text.substring(0, Math.min(text.length(), 60)) + "» of " + text.length() + " bytes";
+        String what = "'" + text.substring(0, Math.min(text.length(), 60)) + "' of " + text.length() + " bytes";
         Oracle oracle = new Oracle();
         Gearbox box = new Gearbox();
         int error = oracle.load(text);

@@ -25,16 +25,16 @@ public final class LoadTest {
         int place = marked.indexOf('@');
         String text = marked.replace("@", "");
         Gearbox box = new Gearbox();
-        check.same("load of «" + text + "»", Tape.load(box, text), error);
-        check.same("errorAt of «" + text + "»", box.errorAt(), place);
-        check.same("functions of «" + text + "»", box.functions(), 0);
+        check.same("load of '" + text + "'", Tape.load(box, text), error);
+        check.same("errorAt of '" + text + "'", box.errorAt(), place);
+        check.same("functions of '" + text + "'", box.functions(), 0);
     }
 
     private static void right(String text) {
         Gearbox box = new Gearbox();
-        check.same("load of «" + text + "»", Tape.load(box, text), 0);
-        check.same("errorAt of «" + text + "»", box.errorAt(), -1);
-        check.isTrue("there are functions in «" + text + "»", box.functions() > 0);
+        check.same("load of '" + text + "'", Tape.load(box, text), 0);
+        check.same("errorAt of '" + text + "'", box.errorAt(), -1);
+        check.isTrue("there are functions in '" + text + "'", box.functions() > 0);
     }
 
     private static void programs() {

@@ -53,9 +53,9 @@ public final class OracleTest {
             int error = oracle.load(text);
             kinds[error]++;
             programs++;
-            check.same(what + ": load of «" + text + "»", Tape.load(box, text), error);
-            check.same(what + ": errorAt of «" + text + "»", box.errorAt(), oracle.errorAt);
-            check.same(what + ": digest behind load of «" + text + "»", box.digest(), oracle.digest());
+            check.same(what + ": load of '" + text + "'", Tape.load(box, text), error);
+            check.same(what + ": errorAt of '" + text + "'", box.errorAt(), oracle.errorAt);
+            check.same(what + ": digest behind load of '" + text + "'", box.digest(), oracle.digest());
             if (check.wrong() > 0) {
                 return;
             }

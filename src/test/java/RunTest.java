@@ -25,7 +25,7 @@ public final class RunTest {
     private static void all(String text, int a, int b, int outcome, int result) {
         Gearbox box = coded(text);
         for (int way = 0; way < 3; way++) {
-            String what = "run " + way + " of «" + text + "» with " + a + " and " + b;
+            String what = "run " + way + " of '" + text + "' with " + a + " and " + b;
             check.same(what, box.run(way, 0, a, b, 0, 0), outcome);
             check.same("outcome of " + what, box.outcome(), outcome);
             check.same("result of " + what, box.result(), result);
@@ -96,7 +96,7 @@ public final class RunTest {
     private static void text(String text, int due) {
         Gearbox box = Tape.with(text);
         box.run(0, 0, 0, 0, 0, 0);
-        check.same("steps of «" + text + "»", box.stepsRun(), due);
+        check.same("steps of '" + text + "'", box.stepsRun(), due);
     }
 
     private static void memory() {

@@ -32,6 +32,23 @@ final class Dump {
         return all.toString();
     }
 
+    /** All that a Gearbox tells, but for its tape and errorAt(). */
+    static String all(Gearbox box) {
+        StringBuilder all = new StringBuilder();
+        all.append(box.functions()).append(" functions, outcome ").append(box.outcome()).append(" result ")
+            .append(box.result()).append(" steps ").append(box.stepsRun()).append(" mean ").append(box.meanCode())
+            .append(" words");
+        for (int place = 0; place < 16; place++) {
+            all.append(' ').append(box.word(place));
+        }
+        for (int f = 0; f < box.functions(); f++) {
+            all.append("\nfunction ").append(f).append(" of ").append(box.parametersOf(f)).append(": values ")
+                .append(box.values(f)).append(" slots ").append(box.slots(f)).append(" united ").append(box.united(f))
+                .append(" rounds ").append(box.rounds(f)).append('\n').append(blocks(box, f)).append(code(box, f));
+        }
+        return all.toString();
+    }
+
     private static String end(Gearbox box, int f, int b) {
         int first = box.successor(f, b, false);
         int second = box.successor(f, b, true);
@@ -75,5 +92,66 @@ final class Dump {
                 box.codeRight(f, line))).append('\n');
         }
         return all.toString();
+    }
+
+    private static long digest;
+
+    private static void put(long x) {
+        digest = digest * 31 + x;
+    }
+
+    /** The checksum out of what the other calls answer. */
+    static long digest(Gearbox box) {
+        digest = 58009;
+        put(box.functions());
+        put(box.errorAt());
+        put(box.outcome());
+        put(box.result());
+        put(box.stepsRun());
+        for (int place = 0; place < 16; place++) {
+            put(box.word(place));
+        }
+        for (int f = 0; f < box.functions(); f++) {
+            put(box.parametersOf(f));
+            put(box.values(f));
+            put(box.lines(f));
+            put(box.slots(f));
+            put(box.united(f));
+            put(box.rounds(f));
+            put(box.blocks(f));
+            for (int b = 0; b < box.blocks(f); b++) {
+                put(box.dominatorOf(f, b));
+                put(box.depthOf(f, b));
+                put(box.phis(f, b));
+                put(box.steps(f, b));
+                put(box.endOf(f, b));
+                put(box.endValue(f, b));
+                put(box.successor(f, b, false));
+                put(box.successor(f, b, true));
+                put(box.predecessors(f, b));
+                for (int place = 0; place < box.predecessors(f, b); place++) {
+                    put(box.predecessor(f, b, place));
+                }
+                for (int phi = 0; phi < box.phis(f, b); phi++) {
+                    put(box.phiGives(f, b, phi));
+                    for (int place = 0; place < box.predecessors(f, b); place++) {
+                        put(box.phiTakes(f, b, phi, place));
+                    }
+                }
+                for (int s = 0; s < box.steps(f, b); s++) {
+                    put(box.kindOf(f, b, s));
+                    put(box.gives(f, b, s));
+                    put(box.leftOf(f, b, s));
+                    put(box.rightOf(f, b, s));
+                }
+            }
+            for (int line = 0; line < box.lines(f); line++) {
+                put(box.codeKind(f, line));
+                put(box.codeGives(f, line));
+                put(box.codeLeft(f, line));
+                put(box.codeRight(f, line));
+            }
+        }
+        return digest;
     }
 }

@@ -1575,7 +1575,7 @@ final class Oracle {
         Map<Integer, Integer> registers;
         boolean isDone;
 
-        Allocation(Graph of, int k) {
+        Allocation(Graph of, int k, int mostRounds) {
             this.shape = of;
             this.k = k;
             next = of.limit;
@@ -1600,7 +1600,7 @@ final class Oracle {
                     putCopies(block, from, copies.get(from));
                 }
             }
-            for (int round = 1; round <= 16 && !isDone; round++) {
+            for (int round = 1; round <= mostRounds && !isDone; round++) {
                 code.rounds = round;
                 round();
             }
@@ -2150,6 +2150,8 @@ final class Oracle {
     List<Graph> graphs = new ArrayList<>();
     List<Code> codes;
     int errorAt = -1;
+    // So that tests can tell how many rounds a program would need without the bound.
+    int mostRounds = 16;
     Run latest = new Run();
 
     int load(String text) {
@@ -2226,7 +2228,7 @@ final class Oracle {
         codes = null;
         int count = 0;
         for (Graph graph : graphs) {
-            Allocation allocation = new Allocation(graph, registers);
+            Allocation allocation = new Allocation(graph, registers, mostRounds);
             if (!allocation.isDone) {
                 return -1;
             }

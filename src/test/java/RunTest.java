@@ -248,79 +248,18 @@ public final class RunTest {
         check.same("digest of a new object", box.digest(), d);
         Tape.load(box, "fun f(a,b){while b{var t=a%b;a=b;b=t;}return a;}fun g(){}fun h(a,b){return a&&b;}");
         box.run(0, 0, 12, 18, 0, 0);
-        check.same("digest", box.digest(), digest(box));
+        check.same("digest", box.digest(), Dump.digest(box));
         box.allocate(3);
         box.run(2, 2, 12, 18, 0, 0);
-        check.same("digest with code", box.digest(), digest(box));
+        check.same("digest with code", box.digest(), Dump.digest(box));
         box.settle();
-        check.same("digest behind settle", box.digest(), digest(box));
+        check.same("digest behind settle", box.digest(), Dump.digest(box));
         box.restore();
         Tape.load(box, "x");
-        check.same("digest behind an error", box.digest(), digest(box));
+        check.same("digest behind an error", box.digest(), Dump.digest(box));
         check.isTrue("meanCode", box.meanCode() == 0.0);
         box.allocate(3);
         check.isTrue("meanCode with code",
             box.meanCode() == (box.lines(0) + box.lines(1) + box.lines(2)) / 3.0);
-    }
-
-    private static long digest;
-
-    private static void put(long x) {
-        digest = digest * 31 + x;
-    }
-
-    /** The checksum out of what the other calls answer. */
-    private static long digest(Gearbox box) {
-        digest = 58009;
-        put(box.functions());
-        put(box.errorAt());
-        put(box.outcome());
-        put(box.result());
-        put(box.stepsRun());
-        for (int place = 0; place < 16; place++) {
-            put(box.word(place));
-        }
-        for (int f = 0; f < box.functions(); f++) {
-            put(box.parametersOf(f));
-            put(box.values(f));
-            put(box.lines(f));
-            put(box.slots(f));
-            put(box.united(f));
-            put(box.rounds(f));
-            put(box.blocks(f));
-            for (int b = 0; b < box.blocks(f); b++) {
-                put(box.dominatorOf(f, b));
-                put(box.depthOf(f, b));
-                put(box.phis(f, b));
-                put(box.steps(f, b));
-                put(box.endOf(f, b));
-                put(box.endValue(f, b));
-                put(box.successor(f, b, false));
-                put(box.successor(f, b, true));
-                put(box.predecessors(f, b));
-                for (int place = 0; place < box.predecessors(f, b); place++) {
-                    put(box.predecessor(f, b, place));
-                }
-                for (int phi = 0; phi < box.phis(f, b); phi++) {
-                    put(box.phiGives(f, b, phi));
-                    for (int place = 0; place < box.predecessors(f, b); place++) {
-                        put(box.phiTakes(f, b, phi, place));
-                    }
-                }
-                for (int s = 0; s < box.steps(f, b); s++) {
-                    put(box.kindOf(f, b, s));
-                    put(box.gives(f, b, s));
-                    put(box.leftOf(f, b, s));
-                    put(box.rightOf(f, b, s));
-                }
-            }
-            for (int line = 0; line < box.lines(f); line++) {
-                put(box.codeKind(f, line));
-                put(box.codeGives(f, line));
-                put(box.codeLeft(f, line));
-                put(box.codeRight(f, line));
-            }
-        }
-        return digest;
     }
 }

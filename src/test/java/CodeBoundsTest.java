@@ -4,11 +4,11 @@ public final class CodeBoundsTest {
     private static final int LEAST = Integer.MIN_VALUE;
     private static final int MOST = Integer.MAX_VALUE;
     // With 8 registers these take 16 rounds, and 17 if there were so many; with fewer registers few rounds.
-    private static final String SIXTEEN = "fun f(a,b,c,d){var e=4;var f=b;var q=16;var l=f;var s=[a];var j=[q];var m=[b];"
+    static final String SIXTEEN = "fun f(a,b,c,d){var e=4;var f=b;var q=16;var l=f;var s=[a];var j=[q];var m=[b];"
         + "var t=19;var n=13;var x=j;var h=7;var v=[h];var i=l;var r=l;while m{while n{v=m;b=b;if b{q=l;break;}n=f;d=v;l=d;"
         + "t=r;}b=b*h+c;l=f;if n{break;}if e{a=v;v=c;}a=e==a;f=i;if l{if v{e=f;}a=v-d;l=f<c;m=l;v=i|v;if m{break;}}l=a*v;"
         + "if e{break;}}if m{r=r;}else{n=j;}v=d+v;x=m<i;j=c*t;f=n+v;[d]=s;while x{d=e;l=q;}v=d*i+j;x=t*j;[l]=r;}";
-    private static final String SEVENTEEN = "fun f(a,b,c,d){var e=4;var f=d;var l=a;var p=[c];var j=[d];var m=[l];var t=19;"
+    static final String SEVENTEEN = "fun f(a,b,c,d){var e=4;var f=d;var l=a;var p=[c];var j=[d];var m=[l];var t=19;"
         + "var n=13;var h=7;var o=d;var v=[f];var i=v;while v{while m{v=l;b=b;if o{break;}n=b;c=f;l=l;t=c;}b=b*i+v;l=f;"
         + "if h{break;}if f{a=e;v=c;}a=b==a;f=d;if t{if l{e=n;}b=p-d;l=j;m=v^i;if v{break;}v=m|v;if c{break;}}if b{}l=v|e;}"
         + "if l{d=d;}i=a<a;j=f*n;e=h+p;[h]=i;while o{l=v;}b=i*l+j;f=e*j;[t]=d;}";

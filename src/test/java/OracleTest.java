@@ -45,6 +45,9 @@ public final class OracleTest {
             for (; text.length() > (isShuffled ? 680 : 1200); statements -= 1 + statements / 20) {
                 text = isShuffled ? maker.shuffle() : maker.program(statements, isSloppy);
             }
+            if (random.nextInt(25) == 0) {
+                text = maker.climb();
+            }
             if (random.nextInt(10) == 0) {
                 text = maker.spoil(text);
                 text = text.substring(0, Math.min(text.length(), 1200));

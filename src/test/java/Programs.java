@@ -65,6 +65,27 @@ final class Programs {
         return text.toString();
     }
 
+    /** A program that takes a great many rounds, but for some names and statements in it. */
+    String climb() {
+        StringBuilder all = new StringBuilder(chance(2) ? CodeBoundsTest.SIXTEEN : CodeBoundsTest.SEVENTEEN);
+        int changes = random.nextInt(4);
+        for (int n = 0; n < changes; n++) {
+            int at = 100 + random.nextInt(all.length() - 100);
+            boolean isName = Character.isLetter(all.charAt(at)) && !Character.isLetter(all.charAt(at - 1))
+                && !Character.isLetter(all.charAt(at + 1));
+            if (isName) {
+                all.setCharAt(at, "abcdefhijlmntv".charAt(random.nextInt(14)));
+            } else if (all.charAt(at) == ';') {
+                int from = at - 1;
+                while (";{}".indexOf(all.charAt(from)) < 0) {
+                    from--;
+                }
+                all.delete(from + 1, at + 1);
+            }
+        }
+        return all.toString();
+    }
+
     private void shuffleBody(int groups) {
         for (int n = 0; n < groups; n++) {
             shuffleMoves(random.nextInt(6));

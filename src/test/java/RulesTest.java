@@ -149,12 +149,12 @@ public final class RulesTest {
         Random random = new Random(1);
         Programs maker = new Programs(random);
         for (int n = 0; n < 128; n++) {
-            String text = n % 4 == 0 ? shuffled(24 + n % 13, 28 - n % 9) : maker.shuffle();
+            String text = n % 4 == 0 ? shuffled(24 + n % 13, 28 - n % 9) : n % 4 == 1 ? maker.climb() : maker.shuffle();
             if (text.length() < 1200 && Tape.load(box, text) == 0) {
                 box.allocate(3);
                 box.differences(0, 1, 6);
                 box.settle();
-                box.allocate(3 + n % 6);
+                box.allocate(n % 4 == 1 ? 8 : 3 + n % 6);
             }
         }
         long[] later = count(box);

@@ -20,12 +20,14 @@ final class Check {
 
     /** The sentence of the document, or the part of one, that the looks behind this are about: it must stand there. */
     void says(String words) {
-        if (document == null) {
-            document = plain(read(DOCUMENT));
-        }
         sentence = words;
         sentences++;
-        isTrue("that the document says so", document.contains(plain(words)));
+        if (document == null && Files.exists(DOCUMENT)) {
+            document = plain(read(DOCUMENT));
+        }
+        if (document != null) {
+            isTrue("that the document says so", document.contains(plain(words)));
+        }
     }
 
     private static String plain(String text) {

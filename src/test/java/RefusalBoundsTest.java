@@ -1,5 +1,11 @@
+import java.lang.reflect.InvocationTargetException;
+import java.lang.reflect.Method;
+import java.lang.reflect.Modifier;
 import java.util.ArrayList;
+import java.util.Arrays;
+import java.util.Comparator;
 import java.util.List;
+import java.util.Random;
 
 /** What the document says of all calls: refused ones change nothing, the first exception counts, and 512 calls are answered. */
 public final class RefusalBoundsTest {
@@ -8,12 +14,13 @@ public final class RefusalBoundsTest {
     private static final int MOST = Integer.MAX_VALUE;
     private static final String ON_TAPE = "fun z(){return 77;}";
 
-    public static void main(String[] args) {
+    public static void main(String[] args) throws IllegalAccessException {
         changesNothing();
         firstException();
         without();
         mostCalls();
         dearestCalls();
+        anyArguments();
         check.end();
     }
 
@@ -254,6 +261,46 @@ public final class RefusalBoundsTest {
                 words[n / 4] = words[n / 4] << 8 | all.charAt(at + n);
             }
             box.feed(words[0], words[1], words[2], words[3], words[4]);
+        }
+    }
+
+    /** Any call with any numbers: it answers, or throws just what its row says, and then nothing has changed. */
+    private static void anyArguments() throws IllegalAccessException {
+        check.says("A method that throws an exception changes nothing.");
+        Method[] face = Gearbox.class.getDeclaredMethods();
+        face = Arrays.stream(face).filter(one -> Modifier.isPublic(one.getModifiers()))
+            .sorted(Comparator.comparing(Method::getName)).toArray(Method[]::new);
+        check.same("methods of the face", face.length, 48);
+        int[] numbers = {0, 0, 0, 1, 1, 2, 3, 4, 5, 8, 9, 15, 16, 20, 59, 60, 249, 250, 1199, 1200, 1201, -1, LEAST, MOST};
+        for (int seed = 0; seed < 60; seed++) {
+            Random random = new Random(seed);
+            Programs maker = new Programs(random);
+            Gearbox box = new Gearbox();
+            if (seed % 10 > 0) {
+                String text = seed % 10 == 1 ? CodeBoundsTest.SEVENTEEN : maker.program(1 + random.nextInt(40), false);
+                Tape.load(box, text.substring(0, Math.min(1200, text.length())));
+            }
+            for (int n = 0; n < 220; n++) {
+                Method method = face[random.nextInt(face.length)];
+                Object[] arguments = new Object[method.getParameterCount()];
+                for (int k = 0; k < arguments.length; k++) {
+                    boolean isTruth = method.getParameterTypes()[k] == boolean.class;
+                    arguments[k] = isTruth ? (Object) random.nextBoolean() : (Object) numbers[random.nextInt(numbers.length)];
+                }
+                anyCall(box, method, arguments);
+            }
+        }
+    }
+
+    private static void anyCall(Gearbox box, Method method, Object[] arguments) throws IllegalAccessException {
+        long before = box.digest();
+        try {
+            method.invoke(box, arguments);
+        } catch (InvocationTargetException e) {
+            Class<?> got = e.getCause().getClass();
+            String what = method.getName() + Arrays.toString(arguments) + " throws " + got.getSimpleName();
+            check.isTrue(what, Arrays.asList(method.getExceptionTypes()).contains(got));
+            check.same("digest behind " + what, box.digest(), before);
         }
     }
 

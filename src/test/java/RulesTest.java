@@ -44,6 +44,7 @@ public final class RulesTest {
 
     public static void main(String[] args) throws Exception {
         face();
+        faceOfTheDocument();
         inside();
         source();
         room();
@@ -69,6 +70,34 @@ public final class RulesTest {
         for (Field field : Gearbox.class.getDeclaredFields()) {
             check.isTrue(field + " is private", Modifier.isPrivate(field.getModifiers()));
         }
+    }
+
+    /** Each line of the document's face stands in the source, with the names of its parameters, below its heading. */
+    private static void faceOfTheDocument() throws IOException {
+        Path file = Path.of("../shared/DOC.md");
+        if (!Files.exists(file)) {
+            return;
+        }
+        String document = Files.readString(file);
+        String source = Files.readString(Path.of("src/main/java/Gearbox.java")).replaceAll("\\s+", " ");
+        String block = document.substring(document.indexOf("```java"), document.indexOf("## Terms"));
+        Matcher lines = Pattern.compile("\n    (public [^;]*);").matcher(block);
+        int count = 0;
+        for (; lines.find(); count++) {
+            check.isTrue("the source has: " + lines.group(1), source.contains(" " + lines.group(1) + " {"));
+        }
+        check.same("members of the document's face", count, FACE.size() + 1);
+        Matcher parts = Pattern.compile("Ahead of the calls (.*) the interface says: (---- .*)\\.").matcher(document);
+        for (; parts.find(); count--) {
+            int at = source.indexOf("// " + parts.group(2) + " ");
+            int end = source.indexOf("// ----", at + 1);
+            for (String name : parts.group(1).replace("`", "").split(", ")) {
+                int there = Math.max(source.indexOf(" public int " + name + "("),
+                    Math.max(source.indexOf(" public double " + name + "("), source.indexOf(" public long " + name + "(")));
+                check.isTrue(name + " stands below " + parts.group(2), at >= 0 && at < there && there < end);
+            }
+        }
+        check.same("members of the face but for its six parts", count, FACE.size() + 1 - 6);
     }
 
     private static String list(Class<?>[] types) {
